@@ -11,6 +11,7 @@ final class AuditTest {
       droppedEntryComesBackAsNewest(size);
     }
     everyFieldTellsEntriesApart();
+    everyFieldShifts();
     due.end();
   }
 
@@ -121,5 +122,21 @@ final class AuditTest {
     x.check(0, 0, 4);
     due.is("still six entries", x.audit(0, 5), 6);
     due.is("count of the shared entry", x.audit(5, 4), 2);
+  }
+
+  private static void everyFieldShifts() {
+    TypeEnforcer x = world(4);
+    x.check(0, 0, 1);
+    x.check(1, 1, 2);
+    x.check(0, 6, 4);
+    x.check(1, 5, 8);
+    x.check(0, 3, 16);
+    x.check(1, 1, 2);
+    int[][] want = {{2, 1, 0, 2, 2}, {1, 0, 3, 4, 1}, {2, 5, 0, 8, 1}, {1, 3, 0, 16, 1}};
+    for (int i = 0; i < want.length; i++) {
+      for (int field = 0; field < 5; field++) {
+        due.is("shifted field " + field + " of " + i, x.audit(i, field), want[i][field]);
+      }
+    }
   }
 }

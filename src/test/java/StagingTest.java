@@ -12,8 +12,8 @@ final class StagingTest {
     memberGood();
     memberRefused();
     rulesGood();
-    allowRefused();
-    neverRefused();
+    permRuleRefused(Op.STAGE_ALLOW);
+    permRuleRefused(Op.STAGE_NEVERALLOW);
     transitionRefused();
     allowFull();
     neverFull();
@@ -121,42 +121,24 @@ final class StagingTest {
     }
   }
 
-  private static void allowRefused() {
+  private static void permRuleRefused(Op op) {
     TypeEnforcer x = busy();
+    Engine e = new RealEngine(x);
     Snapshot before = Snapshot.of(x);
     for (int src : NO_SOURCE) {
-      due.is("allow src " + src, x.stageAllow(src, 0, 0, 1), -1);
-      due.is("allow src " + src + " on self", x.stageAllow(src, 99, 0, 1), -1);
+      due.is(op + " src " + src, e.call(op, src, 0, 0, 1), -1);
+      due.is(op + " src " + src + " on self", e.call(op, src, 99, 0, 1), -1);
     }
     for (int tgt : NO_TARGET) {
-      due.is("allow tgt " + tgt, x.stageAllow(0, tgt, 0, 1), -1);
+      due.is(op + " tgt " + tgt, e.call(op, 0, tgt, 0, 1), -1);
     }
     for (int cls : NO_CLASS) {
-      due.is("allow cls " + cls, x.stageAllow(0, 0, cls, 1), -1);
+      due.is(op + " cls " + cls, e.call(op, 0, 0, cls, 1), -1);
     }
     for (int perms : NO_PERMS) {
-      due.is("allow perms " + perms, x.stageAllow(0, 0, 0, perms), -1);
+      due.is(op + " perms " + perms, e.call(op, 0, 0, 0, perms), -1);
     }
-    due.changed("refused stageAllow", before, Snapshot.of(x));
-  }
-
-  private static void neverRefused() {
-    TypeEnforcer x = busy();
-    Snapshot before = Snapshot.of(x);
-    for (int src : NO_SOURCE) {
-      due.is("never src " + src, x.stageNeverallow(src, 0, 0, 1), -1);
-      due.is("never src " + src + " on self", x.stageNeverallow(src, 99, 0, 1), -1);
-    }
-    for (int tgt : NO_TARGET) {
-      due.is("never tgt " + tgt, x.stageNeverallow(0, tgt, 0, 1), -1);
-    }
-    for (int cls : NO_CLASS) {
-      due.is("never cls " + cls, x.stageNeverallow(0, 0, cls, 1), -1);
-    }
-    for (int perms : NO_PERMS) {
-      due.is("never perms " + perms, x.stageNeverallow(0, 0, 0, perms), -1);
-    }
-    due.changed("refused stageNeverallow", before, Snapshot.of(x));
+    due.changed("refused " + op, before, Snapshot.of(x));
   }
 
   private static void transitionRefused() {
