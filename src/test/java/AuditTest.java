@@ -1,141 +1,191 @@
-/** Promise 13's audit ring and promise 17, audit. */
-final class AuditTest {
-  private static final int MIN = Integer.MIN_VALUE, MAX = Integer.MAX_VALUE;
+/** Promise 17: audit. */
+final class AuditTest implements Face {
   private static final Due due = new Due("AuditTest");
 
   public static void main(String[] args) {
-    fieldsAndWrongInputs();
-    for (int size = 4; size <= 16; size++) {
-      dropsTheOldest(size);
-      countKeepsThePlace(size);
-      droppedEntryComesBackAsNewest(size);
-    }
-    everyFieldTellsEntriesApart();
-    everyFieldShifts();
+    due.sentence(17, "`audit(i, field)` changes nothing.", AuditTest::changesNothing);
+    due.sentence(17, "Entries held are numbered i = 0 (oldest) .. held−1 (newest).", AuditTest::numbering);
+    due.sentence(17, "Fields `AU_SRC`, `AU_TGT`, `AU_CLASS`, `AU_PERMS`, `AU_COUNT` answer that field of entry i",
+        AuditTest::fields);
+    due.sentence(17, "or `ERR_ARG` if i is not in `0..held-1`.", AuditTest::entriesNotHeld);
+    due.sentence(17, "`AU_HELD` answers the number of entries held (`0..N`);", AuditTest::held);
+    due.sentence(17, "`AU_TOTAL` answers the total number of AUDIT events ever;", AuditTest::total);
+    due.sentence(17, "for both, i is ignored.", AuditTest::numberIgnored);
+    due.sentence(17, "An unknown field answers `ERR_ARG`.", AuditTest::unknownField);
+    due.sentence(17, "A count increase leaves entry numbering unchanged;", AuditTest::countKeepsNumbers);
+    due.sentence(17, "dropping the oldest entry shifts every remaining entry down by one.", AuditTest::dropShifts);
     due.end();
   }
 
-  /** Nothing is allowed; a check of object t asks type t in class 0. */
-  private static TypeEnforcer world(int auditSize) {
-    TypeEnforcer x = new TypeEnforcer(6, auditSize);
-    x.spawn(1);
-    x.spawn(2);
-    for (int type = 0; type < 6; type++) {
-      x.makeObject(type, 0);
+  /** Nothing is allowed; process p is in domain p, object o is of type o % 4 and class o / 4. */
+  private static TypeEnforcer world(int size) {
+    TypeEnforcer x = new TypeEnforcer(4, size);
+    for (int pid = 0; pid < 4; pid++) {
+      x.spawn(pid);
     }
-    x.makeObject(0, 3);
+    for (int oid = 0; oid < 16; oid++) {
+      x.makeObject(oid % 4, oid / 4);
+    }
     return x;
   }
 
-  private static void perms(String what, TypeEnforcer x, int i, int perms, int count) {
-    due.is(what + ": perms of " + i, x.audit(i, 3), perms);
-    due.is(what + ": count of " + i, x.audit(i, 4), count);
+  /** The n-th of many denials, each of which differs from the one before in every field. */
+  private static int[] deny(TypeEnforcer x, int n) {
+    int src = n % 4;
+    int tgt = (n + 1 + n / 4) % 4;
+    int cls = (n + 2) % 4;
+    x.check(src, cls * 4 + tgt, n + 1);
+    return new int[] {src, tgt, cls, n + 1, 1};
   }
 
-  private static void fieldsAndWrongInputs() {
+  private static void changesNothing() {
+    for (World world : World.values()) {
+      due.leaves("every entry and field", world, x -> {
+        for (int i = -2; i < 20; i++) {
+          for (int field = -2; field < 10; field++) {
+            x.audit(i, field);
+          }
+        }
+        return 0;
+      }, 0);
+    }
+    due.refuses(Op.AUDIT);
+  }
+
+  private static void numbering() {
+    for (int size = Edges.MIN_AUDIT; size <= Edges.MAX_AUDIT; size++) {
+      TypeEnforcer x = world(size);
+      for (int n = 0; n < 3 * size; n++) {
+        deny(x, n);
+        int held = Math.min(n + 1, size);
+        due.is("oldest", x.audit(0, AU_PERMS), n + 2 - held);
+        due.is("newest", x.audit(held - 1, AU_PERMS), n + 1);
+      }
+    }
+  }
+
+  private static void fields() {
+    for (int size = Edges.MIN_AUDIT; size <= Edges.MAX_AUDIT; size++) {
+      TypeEnforcer x = world(size);
+      int[][] all = new int[size][];
+      for (int n = 0; n < size; n++) {
+        all[n] = deny(x, n);
+      }
+      for (int times = 0; times < 3; times++) {
+        deny(x, size - 1);
+        all[size - 1][AU_COUNT]++;
+      }
+      due.ring("size " + size, x, size + 3, all);
+    }
+  }
+
+  private static void entriesNotHeld() {
+    for (int size : new int[] {4, 7, 16}) {
+      TypeEnforcer x = world(size);
+      for (int n = 0; n <= size + 1; n++) {
+        int held = Math.min(n, size);
+        for (int field = AU_SRC; field <= AU_COUNT; field++) {
+          for (int i : Edges.VALUES) {
+            int answer = x.audit(i, field);
+            due.holds("entry " + i + " of " + held + " field " + field + " answered " + answer,
+                (answer == ERR_ARG) != (i >= 0 && i < held));
+          }
+        }
+        deny(x, n);
+      }
+    }
+  }
+
+  private static void held() {
+    for (int size = Edges.MIN_AUDIT; size <= Edges.MAX_AUDIT; size++) {
+      TypeEnforcer x = world(size);
+      for (int n = 0; n < 3 * size; n++) {
+        due.is("held after " + n, x.audit(0, AU_HELD), Math.min(n, size));
+        deny(x, n);
+        due.is("held after one more", x.audit(0, AU_HELD), Math.min(n + 1, size));
+        deny(x, n);
+        due.is("held after the same again", x.audit(0, AU_HELD), Math.min(n + 1, size));
+      }
+    }
+  }
+
+  /** Events count that met a held entry, and those whose entry is long dropped. */
+  private static void total() {
+    for (int size : new int[] {4, 16}) {
+      TypeEnforcer x = world(size);
+      for (int n = 0; n < 60; n++) {
+        due.is("total", x.audit(0, AU_TOTAL), 3 * n);
+        deny(x, n);
+        deny(x, n);
+        x.exec(0, 0);
+        x.check(9, 9, 9);
+        x.decide(0, 0, 0, WHICH_ACTIVE);
+      }
+    }
+  }
+
+  private static void numberIgnored() {
     TypeEnforcer x = world(4);
-    x.check(1, 6, 130);
-    x.check(1, 6, 130);
-    x.check(0, 5, 1);
-    int[] first = {2, 0, 3, 130, 2};
-    int[] second = {1, 5, 0, 1, 1};
-    for (int field = 0; field < 5; field++) {
-      due.is("field " + field + " of 0", x.audit(0, field), first[field]);
-      due.is("field " + field + " of 1", x.audit(1, field), second[field]);
-      for (int i : new int[] {MIN, -1, 2, 3, 4, 16, MAX}) {
-        due.is("field " + field + " of " + i, x.audit(i, field), -1);
+    due.takes("held of none at", v -> true, 0, v -> x.audit(v, AU_HELD));
+    due.takes("total of none at", v -> true, 0, v -> x.audit(v, AU_TOTAL));
+    for (int n = 0; n < 7; n++) {
+      deny(x, n);
+    }
+    due.takes("held at", v -> true, 4, v -> x.audit(v, AU_HELD));
+    due.takes("total at", v -> true, 7, v -> x.audit(v, AU_TOTAL));
+  }
+
+  private static void unknownField() {
+    for (int n : new int[] {0, 1, 4, 9}) {
+      TypeEnforcer x = world(4);
+      for (int i = 0; i < n; i++) {
+        deny(x, i);
+      }
+      for (int i : new int[] {Edges.MIN, -1, 0, 1, 3, 4, 16, Edges.MAX}) {
+        for (int field : Edges.VALUES) {
+          if (field < 0 || field > 6) {
+            due.is("field " + field + " of entry " + i + " of " + n, x.audit(i, field), ERR_ARG);
+          }
+        }
       }
     }
-    for (int i : new int[] {MIN, -1, 0, 1, 2, 16, MAX}) {
-      due.is("held at " + i, x.audit(i, 5), 2);
-      due.is("total at " + i, x.audit(i, 6), 3);
-      for (int field : new int[] {MIN, -1, 7, 8, MAX}) {
-        due.is("field " + field + " at " + i, x.audit(i, field), -1);
+  }
+
+  private static void countKeepsNumbers() {
+    for (int size = Edges.MIN_AUDIT; size <= Edges.MAX_AUDIT; size++) {
+      for (int again = 0; again < size; again++) {
+        TypeEnforcer x = world(size);
+        int[][] all = new int[size][];
+        for (int n = 0; n < size + 2; n++) {
+          all[Math.max(0, n - 2)] = deny(x, n);
+        }
+        deny(x, again + 2);
+        all[again][AU_COUNT] = 2;
+        due.ring("entry " + again + " of " + size + " again", x, size + 3, all);
       }
     }
-    Snapshot before = Snapshot.of(x);
-    due.changed("audit", before, Snapshot.of(x));
   }
 
-  private static void dropsTheOldest(int size) {
-    TypeEnforcer x = world(size);
-    for (int p = 1; p <= 3 * size; p++) {
-      x.check(0, 0, p);
-      int held = p < size ? p : size;
-      due.is("held after " + p, x.audit(0, 5), held);
-      due.is("total after " + p, x.audit(0, 6), p);
-      for (int i = 0; i < held; i++) {
-        perms("after " + p, x, i, p - held + 1 + i, 1);
+  private static void dropShifts() {
+    for (int size = Edges.MIN_AUDIT; size <= Edges.MAX_AUDIT; size++) {
+      TypeEnforcer x = world(size);
+      int[][] all = new int[size][];
+      int total = 0;
+      for (int n = 0; n < size; n++) {
+        all[n] = deny(x, n);
+        for (int times = 0; times < n % 3; times++) {
+          deny(x, n);
+          all[n][AU_COUNT]++;
+        }
+        total += all[n][AU_COUNT];
       }
-      due.is("entry past the newest", x.audit(held, 3), -1);
-    }
-  }
-
-  private static void countKeepsThePlace(int size) {
-    TypeEnforcer x = world(size);
-    for (int p = 1; p <= size; p++) {
-      x.check(0, 0, p);
-    }
-    for (int i = 0; i < size; i++) {
-      for (int times = 0; times <= i; times++) {
-        x.check(0, 0, i + 1);
-      }
-    }
-    due.is("held", x.audit(0, 5), size);
-    due.is("total", x.audit(0, 6), size + size * (size + 1) / 2);
-    for (int i = 0; i < size; i++) {
-      perms("counted", x, i, i + 1, i + 2);
-    }
-    x.check(0, 0, 100);
-    for (int i = 0; i < size - 1; i++) {
-      perms("shifted", x, i, i + 2, i + 3);
-    }
-    perms("shifted", x, size - 1, 100, 1);
-  }
-
-  private static void droppedEntryComesBackAsNewest(int size) {
-    TypeEnforcer x = world(size);
-    x.check(0, 0, 1);
-    for (int p = 1; p <= size + 1; p++) {
-      x.check(0, 0, p);
-    }
-    x.check(0, 0, 1);
-    perms("came back", x, size - 1, 1, 1);
-    perms("oldest", x, 0, 3, 1);
-    due.is("held", x.audit(0, 5), size);
-    due.is("total", x.audit(0, 6), size + 3);
-  }
-
-  private static void everyFieldTellsEntriesApart() {
-    TypeEnforcer x = world(8);
-    x.check(0, 0, 1);
-    x.check(1, 0, 1);
-    x.check(0, 1, 1);
-    x.check(0, 6, 1);
-    x.check(0, 0, 3);
-    due.is("five entries", x.audit(0, 5), 5);
-    x.check(0, 0, 1);
-    due.is("still five entries", x.audit(0, 5), 5);
-    due.is("count of the first", x.audit(0, 4), 2);
-    due.is("exec shares an entry with check", x.exec(0, 0), -4);
-    due.is("six entries", x.audit(0, 5), 6);
-    x.check(0, 0, 4);
-    due.is("still six entries", x.audit(0, 5), 6);
-    due.is("count of the shared entry", x.audit(5, 4), 2);
-  }
-
-  private static void everyFieldShifts() {
-    TypeEnforcer x = world(4);
-    x.check(0, 0, 1);
-    x.check(1, 1, 2);
-    x.check(0, 6, 4);
-    x.check(1, 5, 8);
-    x.check(0, 3, 16);
-    x.check(1, 1, 2);
-    int[][] want = {{2, 1, 0, 2, 2}, {1, 0, 3, 4, 1}, {2, 5, 0, 8, 1}, {1, 3, 0, 16, 1}};
-    for (int i = 0; i < want.length; i++) {
-      for (int field = 0; field < 5; field++) {
-        due.is("shifted field " + field + " of " + i, x.audit(i, field), want[i][field]);
+      for (int n = size; n < 3 * size; n++) {
+        for (int i = 1; i < size; i++) {
+          all[i - 1] = all[i];
+        }
+        all[size - 1] = deny(x, n);
+        total++;
+        due.ring("drop " + n + " of size " + size, x, total, all);
       }
     }
   }

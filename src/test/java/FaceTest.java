@@ -15,17 +15,6 @@ import java.util.regex.Pattern;
 
 /** The public face as the document has it, and the rules of LANGUAGE.md that can be read off. */
 final class FaceTest {
-  private static final String CONSTANTS = "CLASS_FILE = 0, CLASS_DIR = 1, CLASS_PROCESS = 2, CLASS_SOCKET = 3, "
-      + "P_READ = 1, P_WRITE = 2, P_EXECUTE = 4, P_CREATE = 8, P_TRANSITION = 16, P_ENTRYPOINT = 32, "
-      + "P_ADD_NAME = 64, P_SIGNAL = 128, ATTR_BASE = 64, NUM_ATTRS = 8, SELF = 99, MAX_ALLOW = 24, "
-      + "MAX_NEVER = 6, MAX_TRANS = 12, MAX_PROCS = 8, MAX_OBJECTS = 16, WHICH_ACTIVE = 0, WHICH_STAGED = 1, "
-      + "ERR_ARG = -1, ERR_FULL = -2, ERR_NEVERALLOW = -3, ERR_DENIED = -4, NONE = -5, PI_SEQ = 0, "
-      + "PI_VIOL_INDEX = 1, PI_VIOL_SRC = 2, PI_VIOL_TGT = 3, PI_VIOL_PERMS = 4, PI_STAGED_ALLOW = 5, "
-      + "PI_STAGED_NEVER = 6, PI_STAGED_TRANS = 7, PI_ACTIVE_ALLOW = 8, PI_ACTIVE_NEVER = 9, "
-      + "PI_ACTIVE_TRANS = 10, PI_TYPES = 11, PI_PROCS = 12, PI_OBJECTS = 13, Q_MEMBER_ACTIVE = 0, "
-      + "Q_MEMBER_STAGED = 1, Q_TRANS_ACTIVE = 2, Q_TRANS_STAGED = 3, L_PROC_DOMAIN = 0, L_OBJ_TYPE = 1, "
-      + "L_OBJ_CLASS = 2, AU_SRC = 0, AU_TGT = 1, AU_CLASS = 2, AU_PERMS = 3, AU_COUNT = 4, AU_HELD = 5, "
-      + "AU_TOTAL = 6";
   private static final Map<String, Integer> METHODS = Map.ofEntries(Map.entry("stageMember", 2),
       Map.entry("stageAllow", 4), Map.entry("stageNeverallow", 4), Map.entry("stageTransition", 4),
       Map.entry("stageClear", 0), Map.entry("commit", 0), Map.entry("policyInfo", 1),
@@ -51,22 +40,26 @@ final class FaceTest {
   }
 
   private static void constants(Class<?> program) {
-    Map<String, String> want = new TreeMap<>();
-    for (String constant : CONSTANTS.split(", ")) {
-      String[] half = constant.split(" = ");
-      want.put(half[0], half[1]);
-    }
-    Map<String, String> got = new TreeMap<>();
     for (Field f : program.getFields()) {
       due.holds(f.getName() + " is not a static final int", f.getType() == int.class
           && Modifier.isStatic(f.getModifiers()) && Modifier.isFinal(f.getModifiers()));
+    }
+    Map<String, String> got = values(program);
+    Map<String, String> want = values(Face.class);
+    due.holds("public fields are " + got + ", due are " + want, got.equals(want));
+  }
+
+  /** The constants of the class or interface, by name. */
+  static Map<String, String> values(Class<?> type) {
+    Map<String, String> values = new TreeMap<>();
+    for (Field f : type.getFields()) {
       try {
-        got.put(f.getName(), String.valueOf(f.get(null)));
+        values.put(f.getName(), String.valueOf(f.get(null)));
       } catch (ReflectiveOperationException e) {
         due.holds(f.getName() + " can't be read", false);
       }
     }
-    due.holds("public fields are " + got + ", due are " + want, got.equals(want));
+    return values;
   }
 
   private static void fields(Class<?> program) {

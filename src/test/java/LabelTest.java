@@ -1,101 +1,92 @@
-/** Promises 11, 12 and 16: spawn, makeObject and label. */
-final class LabelTest {
-  private static final int MIN = Integer.MIN_VALUE, MAX = Integer.MAX_VALUE;
-  private static final int[] NO_TYPE = {MIN, -1, 6, 12, 64, 99, MAX};
+/** Promise 16: label. */
+final class LabelTest implements Face {
   private static final Due due = new Due("LabelTest");
 
   public static void main(String[] args) {
-    processes();
-    objects();
-    label();
+    due.sentence(16, "`label(kind, id)` changes nothing.", LabelTest::changesNothing);
+    due.sentence(16, "`L_PROC_DOMAIN` answers the current domain of process `id`.", LabelTest::domain);
+    due.sentence(16, "`L_OBJ_TYPE` and `L_OBJ_CLASS` answer the type and the class of object `id`.",
+        LabelTest::typeAndClass);
+    due.sentence(16, "An unknown kind", LabelTest::unknownKind);
+    due.sentence(16, "or an `id` not in use (negative, or not below the number of processes or objects respectively), "
+        + "answers `ERR_ARG`.", LabelTest::idNotInUse);
     due.end();
   }
 
-  private static void processes() {
-    TypeEnforcer x = new TypeEnforcer(6, 4);
-    refuseSpawn(x);
-    for (int pid = 0; pid < 8; pid++) {
-      Snapshot before = Snapshot.of(x);
-      due.is("spawn " + pid, x.spawn((pid + 3) % 6), pid);
-      due.changed("spawn " + pid, before, Snapshot.of(x), Snapshot.PROCESSES);
-      due.is("processes", x.policyInfo(12), pid + 1);
+  private static void changesNothing() {
+    for (World world : World.values()) {
+      due.leaves("every label", world, x -> {
+        for (int kind = -2; kind < 6; kind++) {
+          for (int id = -2; id < 20; id++) {
+            x.label(kind, id);
+          }
+        }
+        return 0;
+      }, 0);
     }
-    Snapshot full = Snapshot.of(x);
-    due.is("spawn past the limit", x.spawn(0), -2);
-    due.changed("spawn past the limit", full, Snapshot.of(x));
-    refuseSpawn(x);
-    for (int pid = 0; pid < 8; pid++) {
-      due.is("domain " + pid, x.label(0, pid), (pid + 3) % 6);
-    }
-    due.is("makeObject beside full processes", x.makeObject(0, 0), 0);
+    due.refuses(Op.LABEL);
   }
 
-  private static void refuseSpawn(TypeEnforcer x) {
-    Snapshot before = Snapshot.of(x);
-    for (int type : NO_TYPE) {
-      due.is("spawn " + type, x.spawn(type), -1);
+  private static void domain() {
+    TypeEnforcer x = new TypeEnforcer(12, 4);
+    for (int pid = 0; pid < MAX_PROCS; pid++) {
+      x.spawn(11 - pid);
     }
-    due.changed("refused spawn", before, Snapshot.of(x));
+    for (int pid = 0; pid < MAX_PROCS; pid++) {
+      due.is("domain of " + pid, x.label(L_PROC_DOMAIN, pid), 11 - pid);
+    }
+    x.makeObject(2, CLASS_FILE);
+    x.stageTransition(7, 2, CLASS_PROCESS, 0);
+    x.stageAllow(7, 2, CLASS_FILE, P_EXECUTE);
+    x.stageAllow(7, 0, CLASS_PROCESS, P_TRANSITION);
+    x.stageAllow(0, 2, CLASS_FILE, P_ENTRYPOINT);
+    x.commit();
+    due.is("exec", x.exec(4, 0), 0);
+    for (int pid = 0; pid < MAX_PROCS; pid++) {
+      due.is("domain of " + pid + " after exec", x.label(L_PROC_DOMAIN, pid), pid == 4 ? 0 : 11 - pid);
+    }
   }
 
-  private static void objects() {
-    TypeEnforcer x = new TypeEnforcer(6, 4);
-    refuseObject(x);
-    for (int oid = 0; oid < 16; oid++) {
-      Snapshot before = Snapshot.of(x);
-      due.is("makeObject " + oid, x.makeObject((oid + 1) % 6, oid % 4), oid);
-      due.changed("makeObject " + oid, before, Snapshot.of(x), Snapshot.OBJECTS);
-      due.is("objects", x.policyInfo(13), oid + 1);
+  private static void typeAndClass() {
+    TypeEnforcer x = new TypeEnforcer(12, 4);
+    for (int oid = 0; oid < MAX_OBJECTS; oid++) {
+      x.makeObject((oid * 7 + 3) % 12, (oid + 2) % 4);
     }
-    Snapshot full = Snapshot.of(x);
-    due.is("makeObject past the limit", x.makeObject(0, 0), -2);
-    due.changed("makeObject past the limit", full, Snapshot.of(x));
-    refuseObject(x);
-    for (int oid = 0; oid < 16; oid++) {
-      due.is("type " + oid, x.label(1, oid), (oid + 1) % 6);
-      due.is("class " + oid, x.label(2, oid), oid % 4);
+    for (int oid = 0; oid < MAX_OBJECTS; oid++) {
+      due.is("type of " + oid, x.label(L_OBJ_TYPE, oid), (oid * 7 + 3) % 12);
+      due.is("class of " + oid, x.label(L_OBJ_CLASS, oid), (oid + 2) % 4);
     }
-    due.is("spawn beside full objects", x.spawn(0), 0);
   }
 
-  private static void refuseObject(TypeEnforcer x) {
-    Snapshot before = Snapshot.of(x);
-    for (int type : NO_TYPE) {
-      due.is("makeObject type " + type, x.makeObject(type, 0), -1);
-    }
-    for (int cls : new int[] {MIN, -1, 4, MAX}) {
-      due.is("makeObject class " + cls, x.makeObject(0, cls), -1);
-    }
-    due.changed("refused makeObject", before, Snapshot.of(x));
+  private static void unknownKind() {
+    TypeEnforcer x = World.FULL.make();
+    due.takes("kind of 8 and 16", v -> v >= 0 && v <= 2, 0, v -> x.label(v, 0));
+    due.takes("kind of nothing", v -> false, 0, v -> World.NEW.make().label(v, 0));
   }
 
-  private static void label() {
-    TypeEnforcer x = new TypeEnforcer(6, 4);
-    x.spawn(5);
-    x.spawn(4);
-    x.makeObject(1, 3);
-    x.makeObject(2, 2);
-    x.makeObject(3, 0);
-    due.is("domain", x.label(0, 1), 4);
-    due.is("type", x.label(1, 1), 2);
-    due.is("class", x.label(2, 0), 3);
-    due.is("last type", x.label(1, 2), 3);
-    due.is("last class", x.label(2, 2), 0);
-    due.is("pid not in use that is an oid", x.label(0, 2), -1);
-    for (int id : new int[] {MIN, -1, 3, 8, 16, MAX}) {
-      for (int kind = 0; kind < 3; kind++) {
-        due.is("kind " + kind + " id " + id, x.label(kind, id), -1);
+  /** The two numbers are counted apart: what is a pid need not be an oid, nor the other way round. */
+  private static void idNotInUse() {
+    for (int procs = 0; procs <= MAX_PROCS; procs++) {
+      for (int objects = 0; objects <= MAX_OBJECTS; objects++) {
+        TypeEnforcer x = new TypeEnforcer(4, 4);
+        for (int pid = 0; pid < procs; pid++) {
+          x.spawn(3);
+        }
+        for (int oid = 0; oid < objects; oid++) {
+          x.makeObject(2, CLASS_DIR);
+        }
+        for (int id : new int[] {Edges.MIN, -17, -8, -1, 0, procs - 1, procs, objects - 1, objects, 7, 8, 15, 16, 17,
+            Edges.MAX}) {
+          String what = "id " + id + " of " + procs + " and " + objects;
+          due.is("domain, " + what, x.label(L_PROC_DOMAIN, id), id >= 0 && id < procs ? 3 : ERR_ARG);
+          due.is("type, " + what, x.label(L_OBJ_TYPE, id), id >= 0 && id < objects ? 2 : ERR_ARG);
+          due.is("class, " + what, x.label(L_OBJ_CLASS, id), id >= 0 && id < objects ? CLASS_DIR : ERR_ARG);
+        }
       }
     }
-    for (int kind : new int[] {MIN, -1, 3, 4, MAX}) {
-      due.is("kind " + kind, x.label(kind, 0), -1);
-    }
-    TypeEnforcer y = new TypeEnforcer(6, 4);
-    for (int pid = 0; pid < 5; pid++) {
-      y.spawn(1);
-    }
-    y.makeObject(1, 1);
-    due.is("oid not in use that is a pid", y.label(1, 3), -1);
-    due.is("oid not in use that is a pid", y.label(2, 3), -1);
+    TypeEnforcer x = World.FULL.make();
+    due.takes("pid of 8", v -> v >= 0 && v < 8, 0, v -> Math.min(0, x.label(L_PROC_DOMAIN, v)));
+    due.takes("oid of 16", v -> v >= 0 && v < 16, 0, v -> Math.min(0, x.label(L_OBJ_TYPE, v)));
+    due.takes("oid of 16", v -> v >= 0 && v < 16, 0, v -> Math.min(0, x.label(L_OBJ_CLASS, v)));
   }
 }

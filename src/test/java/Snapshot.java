@@ -80,8 +80,15 @@ final class Snapshot {
     }
   }
 
-  private void see(String part, int answer) {
+  void see(String part, int answer) {
     parts.computeIfAbsent(part, p -> new ArrayList<>()).add(answer);
+  }
+
+  /** All that can be seen of the object, as one part. */
+  void seeAll(String part, TypeEnforcer x) {
+    for (List<Integer> answers : of(x).parts.values()) {
+      parts.computeIfAbsent(part, p -> new ArrayList<>()).addAll(answers);
+    }
   }
 
   Set<String> partsThatDiffer(Snapshot other) {

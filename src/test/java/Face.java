@@ -1,0 +1,18 @@
+/** The document's constants, written again so that a wrong one in the program shows. */
+interface Face {
+  int CLASS_FILE = 0, CLASS_DIR = 1, CLASS_PROCESS = 2, CLASS_SOCKET = 3;
+  int P_READ = 1, P_WRITE = 2, P_EXECUTE = 4, P_CREATE = 8, P_TRANSITION = 16, P_ENTRYPOINT = 32,
+      P_ADD_NAME = 64, P_SIGNAL = 128;
+  int ATTR_BASE = 64;
+  int NUM_ATTRS = 8;
+  int SELF = 99;
+  int MAX_ALLOW = 24, MAX_NEVER = 6, MAX_TRANS = 12, MAX_PROCS = 8, MAX_OBJECTS = 16;
+  int WHICH_ACTIVE = 0, WHICH_STAGED = 1;
+  int ERR_ARG = -1, ERR_FULL = -2, ERR_NEVERALLOW = -3, ERR_DENIED = -4, NONE = -5;
+  int PI_SEQ = 0, PI_VIOL_INDEX = 1, PI_VIOL_SRC = 2, PI_VIOL_TGT = 3, PI_VIOL_PERMS = 4,
+      PI_STAGED_ALLOW = 5, PI_STAGED_NEVER = 6, PI_STAGED_TRANS = 7, PI_ACTIVE_ALLOW = 8,
+      PI_ACTIVE_NEVER = 9, PI_ACTIVE_TRANS = 10, PI_TYPES = 11, PI_PROCS = 12, PI_OBJECTS = 13;
+  int Q_MEMBER_ACTIVE = 0, Q_MEMBER_STAGED = 1, Q_TRANS_ACTIVE = 2, Q_TRANS_STAGED = 3;
+  int L_PROC_DOMAIN = 0, L_OBJ_TYPE = 1, L_OBJ_CLASS = 2;
+  int AU_SRC = 0, AU_TGT = 1, AU_CLASS = 2, AU_PERMS = 3, AU_COUNT = 4, AU_HELD = 5, AU_TOTAL = 6;
+}
