@@ -62,7 +62,8 @@ final class AllowTest implements Face {
     due.changes("allow that an assertion forbids", World.BUSY.make(),
         x -> x.stageAllow(5, 5, CLASS_SOCKET, 255), 3, Snapshot.STAGED_ALLOW, Snapshot.STAGED_DECISIONS);
     TypeEnforcer x = World.BUSY.make();
-    while (x.stageAllow(0, 0, CLASS_FILE, 1) != ERR_FULL) {
+    for (int i = 0; i < MAX_ALLOW; i++) {
+      x.stageAllow(0, 0, CLASS_FILE, 1);
       due.is("never beside allow", x.policyInfo(PI_STAGED_NEVER), 2);
     }
     due.is("never with allow full", x.stageNeverallow(0, 0, CLASS_DIR, 1), 2);

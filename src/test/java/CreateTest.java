@@ -95,7 +95,8 @@ final class CreateTest implements Face {
         } else {
           granted(what, x, cls, N);
         }
-        while (x.makeObject(0, CLASS_FILE) != ERR_FULL) {
+        for (int i = 0; i < MAX_OBJECTS; i++) {
+          x.makeObject(0, CLASS_FILE);
           due.changes(what + ", wrong class", x, y -> y.create(0, 0, CLASS_PROCESS), ERR_ARG);
         }
         due.changes(what + ", wrong class past the limit", x, y -> y.create(0, 0, CLASS_PROCESS), ERR_ARG);

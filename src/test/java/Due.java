@@ -6,8 +6,12 @@ import java.util.function.ToIntFunction;
 
 /** Counts the answers that were looked at and prints those that are not as due. */
 final class Due implements Face {
+  /** So many wrong answers to one sentence are printed; the rest is counted. */
+  private static final int PRINTED = 20;
+
   private final String test;
   private String sentence = "";
+  private int wrongInSentence = 0;
   private int seen = 0;
   private int wrong = 0;
 
@@ -21,6 +25,7 @@ final class Due implements Face {
    */
   void sentence(int promise, String words, Runnable looks) {
     sentence = " [" + promise + ": " + words + "]";
+    wrongInSentence = 0;
     int before = seen;
     try {
       looks.run();
@@ -28,7 +33,11 @@ final class Due implements Face {
       holds("threw " + e, false);
     }
     holds("looked at nothing", seen > before);
+    if (wrongInSentence > PRINTED) {
+      System.out.println(test + ": .. " + (wrongInSentence - PRINTED) + " more" + sentence);
+    }
     sentence = "";
+    wrongInSentence = 0;
   }
 
   void is(String what, long got, long want) {
@@ -47,7 +56,10 @@ final class Due implements Face {
 
   private void tell(String what) {
     wrong++;
-    System.out.println(test + ": " + what + sentence);
+    wrongInSentence++;
+    if (wrongInSentence <= PRINTED) {
+      System.out.println(test + ": " + what + sentence);
+    }
   }
 
   /** The call answers ERR_ARG for just the values outside the set, and else as is due. */

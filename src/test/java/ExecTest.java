@@ -211,7 +211,29 @@ final class ExecTest implements Face {
     x.stageTransition(D, F, CLASS_PROCESS, N);
     x.commit();
     granted("to the own domain no more is needed", x, D);
-    denied("to another domain more is needed", steps(P_EXECUTE, 0, 0), D, N, CLASS_PROCESS, P_TRANSITION);
+    for (int from = 0; from < 6; from++) {
+      for (int to = 0; to < 6; to++) {
+        String what = "from " + from + " to " + to;
+        if (from == to) {
+          granted(what + ", execute alone", fromTo(from, to, 0), from);
+        } else {
+          denied(what + ", execute alone", fromTo(from, to, 0), from, to, CLASS_PROCESS, P_TRANSITION);
+          denied(what + ", no entrypoint", fromTo(from, to, 255), to, F, CLASS_FILE, P_ENTRYPOINT);
+        }
+      }
+    }
+  }
+
+  /** A process that may execute, with a transition and this permission for it. */
+  private static TypeEnforcer fromTo(int from, int to, int onDomain) {
+    TypeEnforcer x = new TypeEnforcer(6, 4);
+    x.spawn(from);
+    x.makeObject(F, CLASS_FILE);
+    x.stageTransition(from, F, CLASS_PROCESS, to);
+    x.stageAllow(from, F, CLASS_FILE, P_EXECUTE);
+    allow(x, from, to, CLASS_PROCESS, onDomain);
+    x.commit();
+    return x;
   }
 
   private static void mayTransition() {

@@ -14,7 +14,7 @@ final class Future implements Face {
   static Snapshot of(Supplier<TypeEnforcer> making) {
     Snapshot s = Snapshot.of(making.get());
     laterCommit(s, making.get());
-    laterMembers(s, making.get());
+    laterMembers(s, making);
     laterViolations(s, making, false);
     laterViolations(s, making, true);
     roomLeft(s, making.get());
@@ -26,10 +26,17 @@ final class Future implements Face {
     s.seeAll(COMMIT, x);
   }
 
-  private static void laterMembers(Snapshot s, TypeEnforcer x) {
-    for (int attr = 0; attr < NUM_ATTRS; attr++) {
-      makeAllMembers(x, attr);
+  /** One attribute gets every type, each in its turn, and then all of them. */
+  private static void laterMembers(Snapshot s, Supplier<TypeEnforcer> making) {
+    for (int attr = 0; attr <= NUM_ATTRS; attr++) {
+      TypeEnforcer x = making.get();
+      for (int a = 0; a < NUM_ATTRS; a++) {
+        if (a == attr || attr == NUM_ATTRS) {
+          makeAllMembers(x, a);
+        }
+      }
       s.seeAll(MEMBERS, x);
+      seeCommit(s, MEMBERS, x);
     }
   }
 
@@ -41,10 +48,14 @@ final class Future implements Face {
         makeAllMembers(x, attr);
       }
       x.stageAllow(place / 4 / types, place / 4 % types, place % 4, 255);
-      s.see(ASSERTIONS, x.commit());
-      for (int field = PI_VIOL_INDEX; field <= PI_VIOL_PERMS; field++) {
-        s.see(ASSERTIONS, x.policyInfo(field));
-      }
+      seeCommit(s, ASSERTIONS, x);
+    }
+  }
+
+  private static void seeCommit(Snapshot s, String part, TypeEnforcer x) {
+    s.see(part, x.commit());
+    for (int field = PI_VIOL_INDEX; field <= PI_VIOL_PERMS; field++) {
+      s.see(part, x.policyInfo(field));
     }
   }
 

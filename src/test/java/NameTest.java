@@ -235,7 +235,7 @@ final class NameTest implements Face {
     x.stageAllow(2, 1, CLASS_DIR, 64);
     x.stageAllow(1, 2, CLASS_DIR, 128);
     due.is("bits of four rules", x.decide(1, 1, CLASS_DIR, WHICH_STAGED), 31);
-    while (x.policyInfo(PI_STAGED_ALLOW) < MAX_ALLOW - 1) {
+    for (int i = 7; i < MAX_ALLOW - 1; i++) {
       x.stageAllow(0, 0, 0, 1);
     }
     x.stageAllow(64, 71, CLASS_DIR, 160);

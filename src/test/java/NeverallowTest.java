@@ -91,7 +91,8 @@ final class NeverallowTest implements Face {
     due.changes("never on a new object", World.NEW.make(), x -> x.stageNeverallow(3, SELF, CLASS_FILE, 1), 0,
         Snapshot.STAGED_NEVER);
     TypeEnforcer x = World.BUSY.make();
-    while (x.stageNeverallow(0, 0, CLASS_FILE, 1) != ERR_FULL) {
+    for (int i = 0; i < MAX_NEVER; i++) {
+      x.stageNeverallow(0, 0, CLASS_FILE, 1);
       due.is("allow beside never", x.policyInfo(PI_STAGED_ALLOW), 3);
     }
     due.is("allow with never full", x.stageAllow(0, 0, CLASS_DIR, 1), 3);

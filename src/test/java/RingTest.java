@@ -46,7 +46,8 @@ final class RingTest implements Face {
       countsInPlace(size, size - 1);
       countsInPlace(size, 1);
     }
-    fieldsTellApart();
+    everyPair();
+    amongMany();
   }
 
   /** Each of the held entries is met again, as many times as its number and one. */
@@ -69,8 +70,34 @@ final class RingTest implements Face {
     }
   }
 
-  /** An entry is met only if all four are the same. */
-  private static void fieldsTellApart() {
+  /** Of two denials the second meets the entry of the first only if all four are the same. */
+  private static void everyPair() {
+    for (int a = 0; a < 81; a++) {
+      for (int b = 0; b < 81; b++) {
+        TypeEnforcer x = new TypeEnforcer(4, 4);
+        for (int i = 0; i < 9; i++) {
+          x.spawn(i % 3);
+          x.makeObject(i % 3, i / 3);
+        }
+        int[] first = deny(x, a);
+        int[] second = deny(x, b);
+        first[AU_COUNT] = a == b ? 2 : 1;
+        due.ring("denials " + a + " and " + b, x, 2, a == b ? new int[][] {first} : new int[][] {first, second});
+      }
+    }
+  }
+
+  /** The denial with this number, whose digits to the base of three are its four fields. */
+  private static int[] deny(TypeEnforcer x, int number) {
+    int src = number / 27;
+    int tgt = number / 9 % 3;
+    int cls = number / 3 % 3;
+    int perms = 1 + number % 3;
+    x.check(src, cls * 3 + tgt, perms);
+    return new int[] {src, tgt, cls, perms, 1};
+  }
+
+  private static void amongMany() {
     TypeEnforcer x = world(8);
     x.check(0, 0, P_READ);
     x.check(1, 0, P_READ);

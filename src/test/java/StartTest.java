@@ -16,7 +16,7 @@ final class StartTest implements Face {
     due.sentence(1, "seq is 0", StartTest::seqZero);
     due.sentence(1, "there are no processes and no objects", StartTest::nothingRuns);
     due.sentence(1, "the audit ring holds no entries and its total is 0", StartTest::ringEmpty);
-    due.sentence(1, "all four violation fields are `NONE`.", StartTest::noViolation);
+    due.sentence(1, "and all four violation fields are `NONE`.", StartTest::noViolation);
     objectsAreApart();
     due.end();
   }

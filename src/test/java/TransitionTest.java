@@ -65,7 +65,8 @@ final class TransitionTest implements Face {
     due.changes("transition behind another", World.BUSY.make(),
         x -> x.stageTransition(1, 2, CLASS_PROCESS, 5), 2, Snapshot.STAGED_TRANS);
     TypeEnforcer x = World.BUSY.make();
-    while (x.stageTransition(0, 0, CLASS_FILE, 1) != ERR_FULL) {
+    for (int i = 0; i < MAX_TRANS; i++) {
+      x.stageTransition(0, 0, CLASS_FILE, 1);
       due.is("never beside transitions", x.policyInfo(PI_STAGED_NEVER), 2);
     }
     due.is("allow with transitions full", x.stageAllow(0, 0, CLASS_DIR, 1), 3);
