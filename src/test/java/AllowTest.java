@@ -53,21 +53,21 @@ final class AllowTest implements Face {
   }
 
   private static void nothingElse() {
-    due.changes("allow", World.BUSY.make(), x -> x.stageAllow(0, 5, CLASS_SOCKET, 255), 3,
+    due.changes("allow", World.BUSY.make(), x -> x.stageAllow(0, 5, CLASS_SOCKET, 255), 8,
         Snapshot.STAGED_ALLOW, Snapshot.STAGED_DECISIONS);
     due.changes("allow that adds no permission", World.BUSY.make(),
-        x -> x.stageAllow(1, 2, CLASS_FILE, P_READ), 3, Snapshot.STAGED_ALLOW);
+        x -> x.stageAllow(1, 2, CLASS_FILE, P_READ), 8, Snapshot.STAGED_ALLOW);
     due.changes("allow on a new object", World.NEW.make(), x -> x.stageAllow(3, SELF, CLASS_SOCKET, 1), 0,
         Snapshot.STAGED_ALLOW, Snapshot.STAGED_DECISIONS);
     due.changes("allow that an assertion forbids", World.BUSY.make(),
-        x -> x.stageAllow(5, 5, CLASS_SOCKET, 255), 3, Snapshot.STAGED_ALLOW, Snapshot.STAGED_DECISIONS);
+        x -> x.stageAllow(5, 5, CLASS_SOCKET, 255), 8, Snapshot.STAGED_ALLOW, Snapshot.STAGED_DECISIONS);
     TypeEnforcer x = World.BUSY.make();
     for (int i = 0; i < MAX_ALLOW; i++) {
       x.stageAllow(0, 0, CLASS_FILE, 1);
       due.is("never beside allow", x.policyInfo(PI_STAGED_NEVER), 2);
     }
     due.is("never with allow full", x.stageNeverallow(0, 0, CLASS_DIR, 1), 2);
-    due.is("transition with allow full", x.stageTransition(0, 0, CLASS_DIR, 1), 2);
+    due.is("transition with allow full", x.stageTransition(0, 0, CLASS_DIR, 1), 4);
     due.is("the violation is found as before", x.commit(), ERR_NEVERALLOW);
     due.violation("the violation is found as before", x, 0, 5, 5, P_SIGNAL);
   }

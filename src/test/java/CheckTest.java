@@ -141,12 +141,9 @@ final class CheckTest implements Face {
   }
 
   private static void nothingElse() {
-    TypeEnforcer x = World.BUSY.make();
-    due.changes("denied", x, y -> y.check(0, 0, 255), 255 & ~(P_READ | P_EXECUTE), Snapshot.AUDIT);
-    due.changes("denied again", x, y -> y.check(0, 0, 255), 255 & ~(P_READ | P_EXECUTE), Snapshot.AUDIT);
-    due.changes("granted", x, y -> y.check(0, 0, P_READ), 0);
-    due.leaves("granted", World.BUSY, y -> y.check(0, 0, P_READ | P_EXECUTE), 0);
-    TypeEnforcer full = World.FULL.make();
-    due.changes("denied with a full ring", full, y -> y.check(7, 15, P_READ), P_READ, Snapshot.AUDIT);
+    due.changes("denied", World.BUSY, x -> x.check(0, 0, 255), 255 & ~(P_READ | P_EXECUTE), Snapshot.AUDIT);
+    due.changes("denied again", World.BUSY, x -> x.check(0, 0, P_WRITE), P_WRITE, Snapshot.AUDIT);
+    due.changes("denied with a full ring", World.FULL, x -> x.check(7, 15, P_READ), P_READ, Snapshot.AUDIT);
+    due.leaves("granted", World.BUSY, x -> x.check(0, 0, P_READ | P_EXECUTE), 0);
   }
 }

@@ -203,6 +203,7 @@ final class CommitTest implements Face {
     due.changes("refused commit", x, TypeEnforcer::commit, ERR_NEVERALLOW, Snapshot.VIOLATION);
     due.changes("refused again", x, TypeEnforcer::commit, ERR_NEVERALLOW);
     due.leaves("refused commit with the same violation", World.BUSY, TypeEnforcer::commit, ERR_NEVERALLOW);
+    due.leaves("refused commit with the same violation", World.FULL, TypeEnforcer::commit, ERR_NEVERALLOW);
   }
 
   private static void refusedAnswer() {
@@ -216,8 +217,15 @@ final class CommitTest implements Face {
   }
 
   private static void exactCopy() {
-    TypeEnforcer x = World.FULL.make();
+    TypeEnforcer x = fullLists();
+    due.is("commit of full lists", x.commit(), 1);
     same("full lists", x);
+    for (int i = 0; i < MAX_ALLOW; i++) {
+      due.is("decision by rule " + i, x.decide(i % 12, 11 - i % 12, i / 12, WHICH_ACTIVE), 1 + i);
+    }
+    for (int i = 0; i < MAX_TRANS; i++) {
+      due.is("transition by rule " + i, x.policyQuery(Q_TRANS_ACTIVE, i, 11 - i, CLASS_SOCKET), (i + 5) % 12);
+    }
     x.stageClear();
     x.stageMember(0, 0);
     x.stageAllow(64, SELF, CLASS_FILE, 3);
@@ -234,6 +242,21 @@ final class CommitTest implements Face {
     due.is("no decision", x.decide(0, 0, CLASS_FILE, WHICH_ACTIVE), 0);
     due.is("no transition", x.policyQuery(Q_TRANS_ACTIVE, 0, 0, CLASS_FILE), NONE);
     due.is("no member", x.policyQuery(Q_MEMBER_ACTIVE, 0, 0, 0), 0);
+  }
+
+  private static TypeEnforcer fullLists() {
+    TypeEnforcer x = new TypeEnforcer(12, 4);
+    for (int i = 0; i < MAX_ALLOW; i++) {
+      x.stageMember(i % 12, (i + i / 12) % 8);
+      x.stageAllow(i % 12, 11 - i % 12, i / 12, 1 + i);
+    }
+    for (int i = 0; i < MAX_TRANS; i++) {
+      x.stageTransition(i, 11 - i, CLASS_SOCKET, (i + 5) % 12);
+    }
+    for (int i = 0; i < MAX_NEVER; i++) {
+      x.stageNeverallow(i, i, CLASS_SOCKET, 255);
+    }
+    return x;
   }
 
   private static void same(String what, TypeEnforcer x) {
@@ -263,7 +286,7 @@ final class CommitTest implements Face {
     x.stageAllow(67, 2, CLASS_FILE, 9);
     x.stageTransition(67, 2, CLASS_PROCESS, 4);
     x.stageNeverallow(67, 2, CLASS_FILE, 2);
-    due.changes("commit", x, TypeEnforcer::commit, 2, Snapshot.ACTIVE, Snapshot.SEQ);
+    due.changes("commit", x, TypeEnforcer::commit, 2, Snapshot.ACTIVE, Snapshot.SEQ, Snapshot.VIOLATION);
     due.is("same member", x.stageMember(1, 3), 0);
     due.is("next allow", x.stageAllow(1, 2, CLASS_FILE, 2), 1);
     due.is("next transition", x.stageTransition(1, 2, CLASS_PROCESS, 5), 1);
@@ -318,7 +341,7 @@ final class CommitTest implements Face {
     TypeEnforcer y = World.FULL.make();
     y.stageClear();
     y.stageTransition(0, 0, CLASS_FILE, 1);
-    due.changes("commit", y, TypeEnforcer::commit, 2, Snapshot.ACTIVE, Snapshot.SEQ);
+    due.changes("commit", y, TypeEnforcer::commit, 2, Snapshot.ACTIVE, Snapshot.SEQ, Snapshot.VIOLATION);
   }
 
   private static void withoutAssertions() {

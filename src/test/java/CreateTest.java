@@ -272,6 +272,8 @@ final class CreateTest implements Face {
   }
 
   private static void deniedChangesTheRing() {
+    due.changes("denied add_name", World.BUSY, x -> x.create(0, 1, CLASS_FILE), ERR_DENIED, Snapshot.AUDIT);
+    due.changes("denied create", World.BUSY, x -> x.create(1, 1, CLASS_FILE), ERR_DENIED, Snapshot.AUDIT);
     for (int cls : CLASSES) {
       for (TypeEnforcer x : new TypeEnforcer[] {steps(0, cls, 0), steps(255, cls, 0)}) {
         for (int times = 1; times <= 3; times++) {
@@ -284,6 +286,7 @@ final class CreateTest implements Face {
   }
 
   private static void successGrowsObjects() {
+    due.changes("create", World.BUSY, x -> x.create(1, 1, CLASS_DIR), 4, Snapshot.OBJECTS);
     for (int cls : CLASSES) {
       TypeEnforcer x = steps(P_ADD_NAME, cls, P_CREATE);
       x.spawn(2);

@@ -83,27 +83,32 @@ final class Due implements Face {
     changed(what, before, Snapshot.of(x), parts);
   }
 
-  /** The call answers so in this world and changes nothing, also nothing that shows only later. */
-  void leaves(String what, World world, ToIntFunction<TypeEnforcer> call, int answer) {
-    is(what + " in " + world, call.applyAsInt(world.make()), answer);
-    changed(what + " in " + world, world.future(), Future.of(() -> {
+  /** The call answers so in this world and changes just these parts, also in what shows only later. */
+  void changes(String what, World world, ToIntFunction<TypeEnforcer> call, int answer, String... parts) {
+    changes(what + " in " + world, world.make(), call, answer, parts);
+    Snapshot after = Future.of(() -> {
       TypeEnforcer x = world.make();
       call.applyAsInt(x);
       return x;
-    }));
+    });
+    Set<String> want = Set.of(parts);
+    for (String part : world.future().partsThatDiffer(after)) {
+      String now = part.substring(part.indexOf(Snapshot.LATER) + 1).trim();
+      holds(what + " in " + world + " changed " + part, want.contains(now));
+    }
+  }
+
+  /** The call answers so in this world and changes nothing, also nothing that shows only later. */
+  void leaves(String what, World world, ToIntFunction<TypeEnforcer> call, int answer) {
+    changes(what, world, call, answer);
   }
 
   /** Every call of this kind with a wrong argument is refused and changes nothing, in every world. */
   void refuses(Op op) {
     for (World world : World.values()) {
-      TypeEnforcer x = world.make();
-      Snapshot before = Snapshot.of(x);
       for (Call call : world.refusals(op)) {
-        is(call + " in " + world, call.on(x), ERR_ARG);
-        changed(call + " in " + world, before, Snapshot.of(x));
+        leaves(call.toString(), world, call::on, ERR_ARG);
       }
-      leaves("refused " + op, world, y -> world.refusals(op).stream().mapToInt(call -> call.on(y)).sum(),
-          ERR_ARG * world.refusals(op).size());
     }
   }
 

@@ -280,6 +280,9 @@ final class ExecTest implements Face {
   }
 
   private static void deniedOnce() {
+    due.changes("denied execute", World.BUSY, x -> x.exec(1, 0), ERR_DENIED, Snapshot.AUDIT);
+    due.changes("denied transition", World.BUSY, x -> x.exec(0, 0), ERR_DENIED, Snapshot.AUDIT);
+    due.changes("denied entrypoint", World.BUSY, x -> x.exec(2, 0), ERR_DENIED, Snapshot.AUDIT);
     TypeEnforcer[] all = {steps(0, 0, 0), steps(255, 0, 0), steps(255, 255, 0)};
     for (TypeEnforcer x : all) {
       for (int times = 1; times <= 3; times++) {
@@ -293,6 +296,8 @@ final class ExecTest implements Face {
   }
 
   private static void successChangesTheDomain() {
+    due.changes("exec to another domain", World.BUSY, x -> x.exec(3, 0), 4, Snapshot.PROCESSES);
+    due.leaves("exec that stays", World.BUSY, x -> x.exec(4, 0), 4);
     TypeEnforcer x = steps(255, 255, 255);
     due.is("a denial before", x.check(1, 0, 1), 1);
     due.changes("exec to another domain", x, y -> y.exec(0, 0), N, Snapshot.PROCESSES);

@@ -6,28 +6,28 @@ import java.util.function.Supplier;
  * The object is made anew for each way of going on.
  */
 final class Future implements Face {
-  private static final String COMMIT = "later commit", MEMBERS = "later members",
-      ASSERTIONS = "later violations", ROOM = "room left";
+  private static final String COMMIT = "after commit", MEMBERS = "with more members",
+      FORBIDDEN = "with one rule more", ROOM = "with all room taken";
 
   private Future() {}
 
   static Snapshot of(Supplier<TypeEnforcer> making) {
     Snapshot s = Snapshot.of(making.get());
-    laterCommit(s, making.get());
-    laterMembers(s, making);
-    laterViolations(s, making, false);
-    laterViolations(s, making, true);
-    roomLeft(s, making.get());
+    afterCommit(s, making.get());
+    withMoreMembers(s, making);
+    withOneRuleMore(s, making, false);
+    withOneRuleMore(s, making, true);
+    withAllRoomTaken(s, making.get());
     return s;
   }
 
-  private static void laterCommit(Snapshot s, TypeEnforcer x) {
-    s.see(COMMIT, x.commit());
+  private static void afterCommit(Snapshot s, TypeEnforcer x) {
+    seeCommit(s, COMMIT, x);
     s.seeAll(COMMIT, x);
   }
 
   /** One attribute gets every type, each in its turn, and then all of them. */
-  private static void laterMembers(Snapshot s, Supplier<TypeEnforcer> making) {
+  private static void withMoreMembers(Snapshot s, Supplier<TypeEnforcer> making) {
     for (int attr = 0; attr <= NUM_ATTRS; attr++) {
       TypeEnforcer x = making.get();
       for (int a = 0; a < NUM_ATTRS; a++) {
@@ -40,22 +40,25 @@ final class Future implements Face {
     }
   }
 
-  private static void laterViolations(Snapshot s, Supplier<TypeEnforcer> making, boolean allMembers) {
+  private static void withOneRuleMore(Snapshot s, Supplier<TypeEnforcer> making, boolean allMembers) {
     int types = making.get().policyInfo(PI_TYPES);
+    if (making.get().policyInfo(PI_STAGED_ALLOW) == MAX_ALLOW) {
+      return;
+    }
     for (int place = 0; place < types * types * 4; place++) {
       TypeEnforcer x = making.get();
       for (int attr = 0; allMembers && attr < NUM_ATTRS; attr++) {
         makeAllMembers(x, attr);
       }
       x.stageAllow(place / 4 / types, place / 4 % types, place % 4, 255);
-      seeCommit(s, ASSERTIONS, x);
+      seeCommit(s, FORBIDDEN, x);
     }
   }
 
-  private static void seeCommit(Snapshot s, String part, TypeEnforcer x) {
-    s.see(part, x.commit());
+  private static void seeCommit(Snapshot s, String when, TypeEnforcer x) {
+    s.see(when + Snapshot.LATER + Snapshot.VIOLATION, x.commit());
     for (int field = PI_VIOL_INDEX; field <= PI_VIOL_PERMS; field++) {
-      s.see(part, x.policyInfo(field));
+      s.see(when + Snapshot.LATER + Snapshot.VIOLATION, x.policyInfo(field));
     }
   }
 
@@ -66,18 +69,21 @@ final class Future implements Face {
     }
   }
 
-  private static void roomLeft(Snapshot s, TypeEnforcer x) {
+  /** Of the ring only its size is looked at: what it holds hangs on the labels too. */
+  private static void withAllRoomTaken(Snapshot s, TypeEnforcer x) {
+    String when = ROOM + Snapshot.LATER;
     for (int i = 0; i <= MAX_ALLOW; i++) {
-      s.see(ROOM, x.stageAllow(0, 0, 0, 1));
-      s.see(ROOM, x.stageNeverallow(0, 0, 0, 2));
-      s.see(ROOM, x.stageTransition(0, 0, 0, 0));
-      s.see(ROOM, x.spawn(0));
-      s.see(ROOM, x.makeObject(0, CLASS_FILE));
+      s.see(when + Snapshot.STAGED_ALLOW, x.stageAllow(0, 0, 0, 1));
+      s.see(when + Snapshot.STAGED_NEVER, x.stageNeverallow(0, 0, 0, 2));
+      s.see(when + Snapshot.STAGED_TRANS, x.stageTransition(0, 0, 0, 0));
+      s.see(when + Snapshot.PROCESSES, x.spawn(0));
+      s.see(when + Snapshot.OBJECTS, x.makeObject(0, CLASS_FILE));
     }
+    x.stageClear();
+    x.commit();
     for (int perms = 1; perms <= 40; perms++) {
-      s.see(ROOM, x.check(0, 0, perms));
-      s.see(ROOM, x.audit(0, AU_HELD));
+      x.check(0, 0, perms);
     }
-    s.seeAll(ROOM, x);
+    s.see(ROOM + " the ring", x.audit(0, AU_HELD));
   }
 }

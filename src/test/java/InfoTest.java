@@ -155,7 +155,7 @@ final class InfoTest implements Face {
       }
     }
     TypeEnforcer x = World.BUSY.make();
-    int[] want = {1, 0, 5, 5, P_SIGNAL, 3, 2, 2, 2, 1, 1, 6, 3, 4};
+    int[] want = {1, 0, 5, 5, P_SIGNAL, 8, 2, 4, 7, 1, 3, 6, 5, 4};
     for (int field = 0; field < want.length; field++) {
       due.is("field " + field, x.policyInfo(field), want[field]);
     }

@@ -93,9 +93,9 @@ final class NeverallowTest implements Face {
     TypeEnforcer x = World.BUSY.make();
     for (int i = 0; i < MAX_NEVER; i++) {
       x.stageNeverallow(0, 0, CLASS_FILE, 1);
-      due.is("allow beside never", x.policyInfo(PI_STAGED_ALLOW), 3);
+      due.is("allow beside never", x.policyInfo(PI_STAGED_ALLOW), 8);
     }
-    due.is("allow with never full", x.stageAllow(0, 0, CLASS_DIR, 1), 3);
-    due.is("transition with never full", x.stageTransition(0, 0, CLASS_DIR, 1), 2);
+    due.is("allow with never full", x.stageAllow(0, 0, CLASS_DIR, 1), 8);
+    due.is("transition with never full", x.stageTransition(0, 0, CLASS_DIR, 1), 4);
   }
 }

@@ -96,7 +96,7 @@ final class ObjectTest implements Face {
   }
 
   private static void nothingElse() {
-    due.changes("makeObject", World.BUSY.make(), x -> x.makeObject(5, 1), 4, Snapshot.OBJECTS);
-    due.changes("makeObject", World.NEW.make(), x -> x.makeObject(3, 3), 0, Snapshot.OBJECTS);
+    due.changes("makeObject", World.BUSY, x -> x.makeObject(5, 1), 4, Snapshot.OBJECTS);
+    due.changes("makeObject", World.NEW, x -> x.makeObject(3, 3), 0, Snapshot.OBJECTS);
   }
 }

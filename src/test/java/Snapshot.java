@@ -1,6 +1,7 @@
 import java.util.ArrayList;
 import java.util.List;
 import java.util.Map;
+import java.util.Objects;
 import java.util.Set;
 import java.util.TreeMap;
 import java.util.TreeSet;
@@ -12,6 +13,8 @@ final class Snapshot {
       STAGED_ALLOW = "staged allow count", STAGED_NEVER = "staged never count",
       STAGED_TRANS = "staged transition count", STAGED_TRANSITIONS = "staged transitions",
       PROCESSES = "processes", OBJECTS = "objects", AUDIT = "audit";
+  /** Stands between the time of a later look and the part that was looked at. */
+  static final String LATER = ": ";
 
   private final Map<String, List<Integer>> parts = new TreeMap<>();
 
@@ -84,20 +87,16 @@ final class Snapshot {
     parts.computeIfAbsent(part, p -> new ArrayList<>()).add(answer);
   }
 
-  /** All that can be seen of the object, as one part. */
-  void seeAll(String part, TypeEnforcer x) {
-    for (List<Integer> answers : of(x).parts.values()) {
-      parts.computeIfAbsent(part, p -> new ArrayList<>()).addAll(answers);
-    }
+  /** All that can be seen of the object later, each part for itself. */
+  void seeAll(String when, TypeEnforcer x) {
+    of(x).parts.forEach((part, answers) ->
+        parts.computeIfAbsent(when + LATER + part, p -> new ArrayList<>()).addAll(answers));
   }
 
   Set<String> partsThatDiffer(Snapshot other) {
-    Set<String> differ = new TreeSet<>();
-    for (Map.Entry<String, List<Integer>> part : parts.entrySet()) {
-      if (!part.getValue().equals(other.parts.get(part.getKey()))) {
-        differ.add(part.getKey());
-      }
-    }
+    Set<String> differ = new TreeSet<>(parts.keySet());
+    differ.addAll(other.parts.keySet());
+    differ.removeIf(part -> Objects.equals(parts.get(part), other.parts.get(part)));
     return differ;
   }
 }

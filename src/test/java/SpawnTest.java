@@ -82,7 +82,7 @@ final class SpawnTest implements Face {
   }
 
   private static void nothingElse() {
-    due.changes("spawn", World.BUSY.make(), x -> x.spawn(5), 3, Snapshot.PROCESSES);
-    due.changes("spawn", World.NEW.make(), x -> x.spawn(3), 0, Snapshot.PROCESSES);
+    due.changes("spawn", World.BUSY, x -> x.spawn(5), 5, Snapshot.PROCESSES);
+    due.changes("spawn", World.NEW, x -> x.spawn(3), 0, Snapshot.PROCESSES);
   }
 }

@@ -58,18 +58,18 @@ final class TransitionTest implements Face {
   }
 
   private static void nothingElse() {
-    due.changes("transition", World.BUSY.make(), x -> x.stageTransition(0, 5, CLASS_SOCKET, 5), 2,
+    due.changes("transition", World.BUSY.make(), x -> x.stageTransition(0, 5, CLASS_SOCKET, 5), 4,
         Snapshot.STAGED_TRANS, Snapshot.STAGED_TRANSITIONS);
     due.changes("transition of an empty attribute", World.BUSY.make(),
-        x -> x.stageTransition(70, 5, CLASS_SOCKET, 5), 2, Snapshot.STAGED_TRANS);
+        x -> x.stageTransition(70, 5, CLASS_SOCKET, 5), 4, Snapshot.STAGED_TRANS);
     due.changes("transition behind another", World.BUSY.make(),
-        x -> x.stageTransition(1, 2, CLASS_PROCESS, 5), 2, Snapshot.STAGED_TRANS);
+        x -> x.stageTransition(1, 2, CLASS_PROCESS, 5), 4, Snapshot.STAGED_TRANS);
     TypeEnforcer x = World.BUSY.make();
     for (int i = 0; i < MAX_TRANS; i++) {
       x.stageTransition(0, 0, CLASS_FILE, 1);
       due.is("never beside transitions", x.policyInfo(PI_STAGED_NEVER), 2);
     }
-    due.is("allow with transitions full", x.stageAllow(0, 0, CLASS_DIR, 1), 3);
+    due.is("allow with transitions full", x.stageAllow(0, 0, CLASS_DIR, 1), 8);
     due.is("never with transitions full", x.stageNeverallow(0, 0, CLASS_DIR, 1), 2);
   }
 }

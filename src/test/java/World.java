@@ -7,8 +7,8 @@ enum World implements Face {
   /** Nothing has been called on it. */
   NEW(4, 0, 0, 0, () -> new TypeEnforcer(4, 4)),
   /** Every part holds something, and the staged policy is not the active one. */
-  BUSY(6, 3, 4, 2, World::busy),
-  /** Every list, the processes, the objects and the ring are full. */
+  BUSY(6, 5, 4, 2, World::busy),
+  /** Every list, the processes, the objects and the ring are full, and the last commit was refused. */
   FULL(12, MAX_PROCS, MAX_OBJECTS, 4, World::full);
 
   final int types, procs, objects, held;
@@ -52,15 +52,16 @@ enum World implements Face {
     x.stageAllow(71, SELF, CLASS_DIR, P_CREATE | P_ADD_NAME);
     x.stageTransition(1, 2, CLASS_PROCESS, 3);
     x.stageNeverallow(5, 5, CLASS_SOCKET, P_SIGNAL);
+    allowExec(x);
     x.commit();
     x.stageMember(4, 3);
     x.stageAllow(5, SELF, CLASS_SOCKET, P_SIGNAL);
     x.stageTransition(67, 0, CLASS_DIR, 5);
     x.stageNeverallow(67, 71, CLASS_PROCESS, P_TRANSITION);
     x.commit();
-    x.spawn(1);
-    x.spawn(2);
-    x.spawn(5);
+    for (int domain : new int[] {1, 2, 5, 0, 4}) {
+      x.spawn(domain);
+    }
     for (int cls = 0; cls < 4; cls++) {
       x.makeObject(2 + cls / 2, cls);
     }
@@ -68,6 +69,17 @@ enum World implements Face {
     x.check(2, 3, 255);
     x.check(0, 0, P_WRITE);
     return x;
+  }
+
+  /** On a file of type 2, domain 5 may go to 0 but not enter there, 0 may go to 4, and 4 stays. */
+  private static void allowExec(TypeEnforcer x) {
+    x.stageTransition(5, 2, CLASS_PROCESS, 0);
+    x.stageTransition(0, 2, CLASS_PROCESS, 4);
+    x.stageAllow(5, 2, CLASS_FILE, P_EXECUTE);
+    x.stageAllow(5, 0, CLASS_PROCESS, P_TRANSITION);
+    x.stageAllow(0, 2, CLASS_FILE, P_EXECUTE);
+    x.stageAllow(0, 4, CLASS_PROCESS, P_TRANSITION);
+    x.stageAllow(4, 2, CLASS_FILE, P_EXECUTE | P_ENTRYPOINT);
   }
 
   private static TypeEnforcer full() {
@@ -85,6 +97,9 @@ enum World implements Face {
     for (int i = 0; i < MAX_TRANS; i++) {
       x.stageTransition(i, 71 - i % 8, i % 4, 11 - i);
     }
+    x.commit();
+    // A member that breaks the last assertion: what is staged differs from what is active.
+    x.stageMember(11, 6);
     x.commit();
     for (int i = 0; i < MAX_PROCS; i++) {
       x.spawn(i);
