@@ -49,6 +49,9 @@ final class AuditTest implements Face {
         return 0;
       }, 0);
     }
+    for (int field = 0; field <= 6; field++) {
+      due.reads(Op.AUDIT, 1, field);
+    }
     due.refuses(Op.AUDIT);
   }
 

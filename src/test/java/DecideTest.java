@@ -79,5 +79,9 @@ final class DecideTest implements Face {
         return x.audit(0, AU_TOTAL);
       }, total);
     }
+    for (int which : new int[] {WHICH_ACTIVE, WHICH_STAGED}) {
+      due.reads(Op.DECIDE, 1, 2, CLASS_FILE, which);
+      due.reads(Op.DECIDE, 3, 3, CLASS_SOCKET, which);
+    }
   }
 }

@@ -103,6 +103,14 @@ final class Due implements Face {
     changes(what, world, call, answer);
   }
 
+  /** The call changes nothing in any world, whatever it answers there. */
+  void reads(Op op, int... arguments) {
+    Call call = new Call(op, arguments);
+    for (World world : World.values()) {
+      leaves(call.toString(), world, call::on, call.on(world.make()));
+    }
+  }
+
   /** Every call of this kind with a wrong argument is refused and changes nothing, in every world. */
   void refuses(Op op) {
     for (World world : World.values()) {

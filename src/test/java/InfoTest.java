@@ -28,6 +28,9 @@ final class InfoTest implements Face {
         return 0;
       }, 0);
     }
+    for (int field = 0; field <= 13; field++) {
+      due.reads(Op.POLICY_INFO, field);
+    }
     due.refuses(Op.POLICY_INFO);
   }
 

@@ -24,6 +24,9 @@ final class LabelTest implements Face {
         return 0;
       }, 0);
     }
+    for (int kind = 0; kind <= 2; kind++) {
+      due.reads(Op.LABEL, kind, 0);
+    }
     due.refuses(Op.LABEL);
   }
 

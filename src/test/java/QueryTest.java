@@ -27,6 +27,9 @@ final class QueryTest implements Face {
         return 0;
       }, 0);
     }
+    for (int kind = 0; kind <= 3; kind++) {
+      due.reads(Op.POLICY_QUERY, kind, 1, 2, CLASS_PROCESS);
+    }
   }
 
   private static void memberArguments() {

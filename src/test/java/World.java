@@ -86,13 +86,13 @@ enum World implements Face {
     TypeEnforcer x = new TypeEnforcer(12, 4);
     for (int i = 0; i < MAX_ALLOW; i++) {
       x.stageMember(i % 12, i % 8);
-      x.stageAllow(i % 12, 11 - i % 12, i % 4, 1 + i);
+      x.stageAllow(i % 12, 11 - i % 12, i % 4, i % 4 == CLASS_SOCKET ? P_SIGNAL + i : 1 + i);
     }
     // Each assertion would be broken by a member more, so that a change of it shows.
     int[] attributes = {64, 65, 66, 68, 69, 70};
     int[] targets = {8, 4, 0, 8, 4, 0};
     for (int i = 0; i < MAX_NEVER; i++) {
-      x.stageNeverallow(attributes[i], targets[i], CLASS_SOCKET, P_EXECUTE | P_CREATE | P_TRANSITION);
+      x.stageNeverallow(attributes[i], targets[i], CLASS_SOCKET, P_SIGNAL | P_TRANSITION | P_READ);
     }
     for (int i = 0; i < MAX_TRANS; i++) {
       x.stageTransition(i, 71 - i % 8, i % 4, 11 - i);
