@@ -23,6 +23,9 @@ final class FaceTest {
       Map.entry("label", 2), Map.entry("audit", 2));
   private static final Set<Class<?>> NUMBERS =
       Set.of(int.class, long.class, short.class, byte.class, char.class, boolean.class);
+  private static final int DEEPEST = 6;
+  private static final Pattern CALL =
+      Pattern.compile("\\b(?!(?:if|for|while|switch|return)\\b)(\\w+)\\s*\\(");
   private static final Due due = new Due("FaceTest");
 
   public static void main(String[] args) throws IOException {
@@ -35,7 +38,9 @@ final class FaceTest {
     fields(program);
     constructors(program);
     methods(program);
-    source(Files.readString(Path.of("src/main/java/TypeEnforcer.java")));
+    String code = withoutComments(Files.readString(Path.of("src/main/java/TypeEnforcer.java")));
+    source(code);
+    calls(code);
     due.end();
   }
 
@@ -118,8 +123,11 @@ final class FaceTest {
     due.holds("private methods bear public names: " + hidden, hidden.isEmpty());
   }
 
-  private static void source(String text) {
-    String code = text.replaceAll("(?s)/\\*.*?\\*/", " ").replaceAll("//[^\n]*", " ");
+  private static String withoutComments(String text) {
+    return text.replaceAll("(?s)/\\*.*?\\*/", " ").replaceAll("//[^\n]*", " ");
+  }
+
+  private static void source(String code) {
     Matcher banned = Pattern.compile("\\b(import|package|throw|throws|try|catch|synchronized|assert|instanceof|"
         + "null|float|double|String|Object|Math|Integer|Long|System|Arrays|enum|record|interface|protected|"
         + "super|volatile|transient|native)\\b|->|::|\"|@").matcher(code);
@@ -141,5 +149,46 @@ final class FaceTest {
       due.holds("a long method: " + method.group().lines().findFirst().orElse(""),
           method.group().lines().count() <= 60);
     }
+  }
+
+  /** Rules 8 and 10: no recursion, calls at most six deep, and none inside the arguments of another. */
+  private static void calls(String code) {
+    Map<String, Set<String>> called = new TreeMap<>();
+    Matcher method = Pattern.compile("(?m)^  (?:public|private) [\\w ]*?(\\w+)\\([^)]*\\) \\{$(?s:(.*?))^  \\}$")
+        .matcher(code);
+    while (method.find()) {
+      called.put(method.group(1), new TreeSet<>());
+      Matcher call = CALL.matcher(method.group(2));
+      while (call.find()) {
+        called.get(method.group(1)).add(call.group(1));
+        String arguments = arguments(method.group(2), call.end());
+        due.holds(method.group(1) + ": a call inside " + call.group() + arguments, !CALL.matcher(arguments).find());
+      }
+    }
+    due.is("methods and constructors whose calls were read", called.size(),
+        TypeEnforcer.class.getDeclaredMethods().length + 1);
+    for (String name : called.keySet()) {
+      int depth = depth(called, name, DEEPEST + 1);
+      due.holds(name + " leads to calls over six deep or to itself", depth <= DEEPEST);
+    }
+  }
+
+  private static String arguments(String body, int from) {
+    int open = 1;
+    int at = from;
+    while (open > 0) {
+      char c = body.charAt(at++);
+      open += c == '(' ? 1 : c == ')' ? -1 : 0;
+    }
+    return body.substring(from, at);
+  }
+
+  /** How deep the calls go, this one counted; recursion shows as the bound. */
+  private static int depth(Map<String, Set<String>> called, String name, int bound) {
+    int below = 0;
+    for (String other : bound == 1 ? Set.<String>of() : called.getOrDefault(name, Set.of())) {
+      below = Math.max(below, depth(called, other, bound - 1));
+    }
+    return 1 + below;
   }
 }
